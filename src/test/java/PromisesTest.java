@@ -1,5 +1,5 @@
 // One method for each promise of the document: ordinary inputs, the named edges, wrong inputs.
-// All due answers are worked out by hand.
+// The due answers are worked out by hand; where a test adds them up itself, it shows how.
 public final class PromisesTest {
     private static final int MIN = Integer.MIN_VALUE;
     private static final int MAX = Integer.MAX_VALUE;
