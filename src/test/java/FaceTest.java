@@ -14,36 +14,25 @@ public final class FaceTest {
         "void schedule(int)", "int edges()", "int degree(int)", "int parts()", "int state(int, int)",
         "int sum(int)", "int kinds(int)", "int settled()", "int changes(int)", "int reached(int, int)",
         "int overhead(int)");
-    private static int wrong = 0;
 
     public static void main(String[] args) {
         classIsAsDue();
         methodsAreAsDue();
         fieldsAreAsDue();
-        System.out.println(wrong == 0 ? "the face is as due" : wrong + " faults in the face");
-        if (wrong != 0) {
-            System.exit(1);
-        }
-    }
-
-    private static void due(boolean holds, String what) {
-        if (!holds) {
-            wrong++;
-            System.out.println("not so: " + what);
-        }
+        Due.end();
     }
 
     private static void classIsAsDue() {
         Class<?> type = SafeSync.class;
-        due(Modifier.isPublic(type.getModifiers()), "the class is public");
-        due(Modifier.isFinal(type.getModifiers()), "the class is final");
-        due(type.getSuperclass() == Object.class, "the class extends nothing");
-        due(type.getInterfaces().length == 0, "the class implements nothing");
-        due(type.getDeclaredClasses().length == 0, "there is no nested class");
+        Due.holds(Modifier.isPublic(type.getModifiers()), "the class is public");
+        Due.holds(Modifier.isFinal(type.getModifiers()), "the class is final");
+        Due.holds(type.getSuperclass() == Object.class, "the class extends nothing");
+        Due.holds(type.getInterfaces().length == 0, "the class implements nothing");
+        Due.holds(type.getDeclaredClasses().length == 0, "there is no nested class");
         Constructor<?>[] constructors = type.getDeclaredConstructors();
-        due(constructors.length == 1, "there is one constructor");
-        due(Modifier.isPublic(constructors[0].getModifiers()), "the constructor is public");
-        due(Arrays.equals(constructors[0].getParameterTypes(), new Class<?>[] {int.class}), "it takes an int");
+        Due.holds(constructors.length == 1, "there is one constructor");
+        Due.holds(Modifier.isPublic(constructors[0].getModifiers()), "the constructor is public");
+        Due.holds(Arrays.equals(constructors[0].getParameterTypes(), new Class<?>[] {int.class}), "it takes an int");
     }
 
     private static void methodsAreAsDue() {
@@ -51,17 +40,17 @@ public final class FaceTest {
         Set<String> publicNames = new TreeSet<>();
         for (Method method : SafeSync.class.getDeclaredMethods()) {
             if (!Modifier.isPrivate(method.getModifiers())) {
-                due(Modifier.isPublic(method.getModifiers()), method + " is public or private");
-                due(!Modifier.isStatic(method.getModifiers()), method + " is not static");
+                Due.holds(Modifier.isPublic(method.getModifiers()), method + " is public or private");
+                Due.holds(!Modifier.isStatic(method.getModifiers()), method + " is not static");
                 seen.add(signature(method));
                 publicNames.add(method.getName());
             }
         }
-        due(seen.equals(FACE), "the public methods " + seen + " are those of the document");
+        Due.holds(seen.equals(FACE), "the public methods " + seen + " are those of the document");
         for (Method method : SafeSync.class.getDeclaredMethods()) {
-            due(!Modifier.isPrivate(method.getModifiers()) || !publicNames.contains(method.getName()),
+            Due.holds(!Modifier.isPrivate(method.getModifiers()) || !publicNames.contains(method.getName()),
                 method + " does not bear the name of a public method");
-            due(method.getParameterCount() <= 7, method + " takes at most seven parameters");
+            Due.holds(method.getParameterCount() <= 7, method + " takes at most seven parameters");
         }
     }
 
@@ -77,12 +66,12 @@ public final class FaceTest {
         Set<Class<?>> numbers = Set.of(int.class, long.class, short.class, byte.class, char.class, boolean.class);
         for (Field field : SafeSync.class.getDeclaredFields()) {
             Class<?> type = field.getType();
-            due(Modifier.isPrivate(field.getModifiers()), field + " is private");
+            Due.holds(Modifier.isPrivate(field.getModifiers()), field + " is private");
             if (Modifier.isStatic(field.getModifiers())) {
-                due(Modifier.isFinal(field.getModifiers()), field + " is a constant");
-                due(type == int.class || type == long.class, field + " is an int or a long");
+                Due.holds(Modifier.isFinal(field.getModifiers()), field + " is a constant");
+                Due.holds(type == int.class || type == long.class, field + " is an int or a long");
             } else {
-                due(numbers.contains(type) || type.isArray() && numbers.contains(type.getComponentType()),
+                Due.holds(numbers.contains(type) || type.isArray() && numbers.contains(type.getComponentType()),
                     field + " is a number or an array of numbers");
             }
         }

@@ -10,17 +10,13 @@ public final class ModelTest {
     private static final int MOST_CALLS = 512;
     private static final int RUNS = 2000;
     private static final int CALL_KINDS = 16;
-    private static int wrong = 0;
 
     public static void main(String[] args) {
-        for (int run = 0; run < RUNS && wrong < 20; run++) {
+        for (int run = 0; run < RUNS && !Due.enoughToldOfSentence(); run++) {
             playRun(run);
         }
         everyGraphOfFour();
-        System.out.println(wrong == 0 ? "all answers are as due" : wrong + " answers are not as due");
-        if (wrong != 0) {
-            System.exit(1);
-        }
+        Due.end();
     }
 
     private static void playRun(int run) {
@@ -47,10 +43,9 @@ public final class ModelTest {
             int want = answer(model, call);
             int got = answer(object, call);
             int gotOfTwin = answer(twin, call);
+            Due.answer(() -> "run " + run + ", new SafeSync(" + size + "): " + told, got, want);
+            Due.answer(() -> "run " + run + ", new SafeSync(" + size + "), other schedules: " + told, gotOfTwin, want);
             if (got != want || gotOfTwin != want) {
-                wrong++;
-                System.out.println("run " + run + ", new SafeSync(" + size + "): " + told
-                    + " answered " + got + ", with another schedule " + gotOfTwin + ", due is " + want);
                 return;
             }
         }
@@ -161,7 +156,7 @@ public final class ModelTest {
     /** All 64 graphs of four nodes with all programs: nothing is left to the numbers drawn. */
     private static void everyGraphOfFour() {
         int[][] starts = {{1000, -1000, 3, 0}, {0, 1, 2, 3}, {7, 7, -7, 7}};
-        for (int graph = 0; graph < 64 && wrong < 20; graph++) {
+        for (int graph = 0; graph < 64 && !Due.enoughToldOfSentence(); graph++) {
             for (int program = 0; program <= 5; program++) {
                 for (int[] values : starts) {
                     compareAll(graph, program, values);
@@ -198,13 +193,8 @@ public final class ModelTest {
         SafeSync object = new SafeSync(4);
         Model model = new Model(4);
         for (int[] call : calls) {
-            int got = answer(object, call);
-            int want = answer(model, call);
-            if (got != want) {
-                wrong++;
-                System.out.println("graph " + graph + ", program " + program + ": " + text(call)
-                    + " answered " + got + ", due is " + want);
-            }
+            String when = "graph " + graph + ", program " + program + ": ";
+            Due.answer(() -> when + text(call), answer(object, call), answer(model, call));
         }
     }
 

@@ -1,123 +1,238 @@
 import java.util.ArrayList;
-import java.util.Arrays;
 import java.util.LinkedHashMap;
 import java.util.List;
 import java.util.Map;
-import java.util.function.Consumer;
+import java.util.function.ToIntFunction;
 
-// "No question changes anything. A refused call changes nothing", and no answer hangs on the schedule:
-// after such a call an object answers everything as one does that never got it.
+// "No question changes anything. A refused call changes nothing": every answer that can be asked for is the
+// same before and after such a call, on the same object, and what was set is still what the setting calls
+// answer. Every method has a test of its own.
 public final class UnchangedTest {
     private static final int MIN = Integer.MIN_VALUE;
     private static final int MAX = Integer.MAX_VALUE;
-    private static int wrong = 0;
+    private static final int[] WILD = {MIN, -1001, -2, -1, 0, 1, 2, 5, 6, 7, 8, 9, 10, 11, 12, 31, 32, 33, 1001, MAX};
+
+    /** A call, told as it is written, and how it is made. */
+    private record Call(String told, ToIntFunction<SafeSync> made) {
+    }
+
+    /** An object as it is set up: how many of the edges there are (none, some, all), the program and the method. */
+    private record Setting(int n, int edges, int program, int method) {
+    }
 
     public static void main(String[] args) {
-        for (int n : new int[] {2, 3, 5, 8}) {
-            for (int program = 0; program <= 5; program++) {
-                for (int method = 0; method <= 1; method++) {
-                    tryAllCalls(n, program, method);
+        List<Setting> settings = settings();
+        for (String method : callsWithoutEffect(2).keySet()) {
+            Due.sentence(method, () -> tryOn(settings, method));
+        }
+        Due.sentence("a METHOD, which matters for overhead only", () -> tryOtherMethodOn(settings));
+        Due.end();
+    }
+
+    private static List<Setting> settings() {
+        List<Setting> settings = new ArrayList<>();
+        for (int program = 0; program <= 5; program++) {
+            for (int n : new int[] {2, 5, 8}) {
+                settings.add(new Setting(n, 1, program, program % 2));
+            }
+            settings.add(new Setting(8, 1, program, 1 - program % 2));
+            settings.add(new Setting(8, 2, program, program % 2));
+            settings.add(new Setting(2 + program, 0, program, 1));
+        }
+        return settings;
+    }
+
+    private static void tryOn(List<Setting> settings, String method) {
+        for (Setting setting : settings) {
+            List<Call> questions = questions(setting.n);
+            List<Call> ends = callsThatEndTheUse(setting.n);
+            SafeSync untouched = prepared(setting);
+            List<Integer> before = answers(untouched, questions);
+            List<Integer> endsDue = answers(untouched, ends);
+            for (Call call : callsWithoutEffect(setting.n).get(method)) {
+                SafeSync x = prepared(setting);
+                compare(setting + ", before " + call.told, questions, answers(x, questions), before);
+                call.made.applyAsInt(x);
+                compare(setting + ", after " + call.told, questions, answers(x, questions), before);
+                compare(setting + ", after " + call.told, ends, answers(x, ends), endsDue);
+                if (Due.enoughToldOfSentence()) {
+                    return;
                 }
             }
         }
-        System.out.println(wrong == 0 ? "no call changed anything" : wrong + " calls changed something");
-        if (wrong != 0) {
-            System.exit(1);
+    }
+
+    private static void tryOtherMethodOn(List<Setting> settings) {
+        for (Setting setting : settings) {
+            List<Call> questions = questions(setting.n);
+            questions.removeIf(question -> question.told.startsWith("overhead"));
+            SafeSync x = prepared(setting);
+            List<Integer> before = answers(x, questions);
+            x.method(1 - setting.method);
+            compare(setting + ", with the other method", questions, answers(x, questions), before);
         }
     }
 
-    private static void tryAllCalls(int n, int program, int method) {
-        List<Integer> want = everyAnswer(prepared(n, program, method));
-        for (Map.Entry<String, Consumer<SafeSync>> call : callsWithoutEffect(n).entrySet()) {
-            SafeSync x = prepared(n, program, method);
-            call.getValue().accept(x);
-            List<Integer> got = everyAnswer(x);
-            if (!got.equals(want)) {
-                wrong++;
-                System.out.println("n " + n + ", program " + program + ", method " + method + ": "
-                    + call.getKey() + " changed the answers from " + want + " to " + got);
+    private static void compare(String when, List<Call> asked, List<Integer> got, List<Integer> want) {
+        for (int i = 0; i < asked.size(); i++) {
+            String told = asked.get(i).told;
+            Due.answer(() -> when + ": " + told, got.get(i), want.get(i));
+        }
+    }
+
+    private static SafeSync prepared(Setting setting) {
+        SafeSync x = new SafeSync(setting.n);
+        for (int v = 0; v < setting.n; v++) {
+            x.start(v, (v * 37 + 11) % 50 - 20);
+            for (int u = 0; u < v; u++) {
+                boolean some = v == u + 1 && u % 4 != 3 || u == 5 && v == 7;
+                if (setting.edges == 2 || setting.edges == 1 && some) {
+                    x.edge(u, v, 1);
+                }
             }
         }
-    }
-
-    private static SafeSync prepared(int n, int program, int method) {
-        SafeSync x = new SafeSync(n);
-        for (int v = 0; v < n; v++) {
-            x.start(v, (v * 37 + 11) % 50 - 20);
-        }
-        for (int v = 0; v + 1 < n; v++) {
-            x.edge(v, v + 1, v % 4 == 3 ? 0 : 1);
-        }
-        if (n > 5) {
-            x.edge(5, 7, 1);
-        }
-        x.program(program);
-        x.method(method);
+        x.program(setting.program);
+        x.method(setting.method);
         return x;
     }
 
-    private static Map<String, Consumer<SafeSync>> callsWithoutEffect(int n) {
-        Map<String, Consumer<SafeSync>> calls = new LinkedHashMap<>();
-        int[] wild = {MIN, -1001, -2, -1, 0, 1, 2, 5, 6, 7, 8, 9, 10, 11, 12, 31, 32, 33, 1001, MAX};
-        calls.put("nodes()", SafeSync::nodes);
-        calls.put("edges()", SafeSync::edges);
-        calls.put("parts()", SafeSync::parts);
-        calls.put("settled()", SafeSync::settled);
-        for (int a : wild) {
-            calls.put("schedule(" + a + ")", x -> x.schedule(a));
-            calls.put("degree(" + a + ")", x -> x.degree(a));
-            calls.put("sum(" + a + ")", x -> x.sum(a));
-            calls.put("kinds(" + a + ")", x -> x.kinds(a));
-            calls.put("changes(" + a + ")", x -> x.changes(a));
-            calls.put("overhead(" + a + ")", x -> x.overhead(a));
-            calls.put("edge(" + a + ", " + a + ", 1)", x -> x.edge(a, a, 1));
-            calls.put("edge(" + a + ", " + a + ", 0)", x -> x.edge(a, a, 0));
-            if (a < 0 || a > 5) {
-                calls.put("program(" + a + ")", x -> x.program(a));
+    private static List<Integer> answers(SafeSync x, List<Call> calls) {
+        List<Integer> answers = new ArrayList<>();
+        for (Call call : calls) {
+            answers.add(call.made.applyAsInt(x));
+        }
+        return answers;
+    }
+
+    /**
+     * All that can be asked for, of every node and every round, and just outside them. With 8 nodes they are
+     * 210 calls, asked twice; with 38 to set up, one to be tried and 46 at the end an object gets 505 of its 512.
+     */
+    private static List<Call> questions(int n) {
+        List<Call> calls = new ArrayList<>();
+        calls.add(new Call("nodes()", SafeSync::nodes));
+        calls.add(new Call("edges()", SafeSync::edges));
+        calls.add(new Call("parts()", SafeSync::parts));
+        calls.add(new Call("settled()", SafeSync::settled));
+        calls.add(new Call("degree(-1)", x -> x.degree(-1)));
+        calls.add(new Call("degree(" + n + ")", x -> x.degree(n)));
+        for (int v = 0; v < n; v++) {
+            int node = v;
+            calls.add(new Call("degree(" + v + ")", x -> x.degree(node)));
+            calls.add(new Call("reached(" + v + ", 0)", x -> x.reached(node, 0)));
+            calls.add(new Call("reached(" + v + ", its state after 5)", x -> x.reached(node, x.state(node, 5))));
+            calls.add(new Call("reached(" + v + ", its state after 10)", x -> x.reached(node, x.state(node, 10))));
+        }
+        for (int r = -1; r <= 11; r++) {
+            int round = r;
+            calls.add(new Call("sum(" + r + ")", x -> x.sum(round)));
+            calls.add(new Call("kinds(" + r + ")", x -> x.kinds(round)));
+            calls.add(new Call("changes(" + r + ")", x -> x.changes(round)));
+            calls.add(new Call("overhead(" + r + ")", x -> x.overhead(round)));
+            for (int v = 0; v < n; v++) {
+                int node = v;
+                calls.add(new Call("state(" + v + ", " + r + ")", x -> x.state(node, round)));
             }
-            if (a < 0 || a > 1) {
-                calls.put("method(" + a + ")", x -> x.method(a));
+        }
+        return calls;
+    }
+
+    /** They answer what was set before and show it under another program; the object is not used after them. */
+    private static List<Call> callsThatEndTheUse(int n) {
+        List<Call> calls = new ArrayList<>();
+        calls.add(new Call("program(2)", x -> x.program(2)));
+        for (int v = 0; v < n; v++) {
+            int node = v;
+            calls.add(new Call("state(" + v + ", 3) after program(2)", x -> x.state(node, 3)));
+        }
+        calls.add(new Call("method(0)", x -> x.method(0)));
+        for (int u = 0; u < n; u++) {
+            int node = u;
+            calls.add(new Call("start(" + u + ", 0)", x -> x.start(node, 0)));
+            for (int v = u + 1; v < n; v++) {
+                int other = v;
+                calls.add(new Call("edge(" + u + ", " + v + ", 0)", x -> x.edge(node, other, 0)));
             }
-            for (int b : wild) {
-                calls.put("state(" + a + ", " + b + ")", x -> x.state(a, b));
-                calls.put("reached(" + a + ", " + b + ")", x -> x.reached(a, b));
-                if (a < 0 || a >= n || b < -1000 || b > 1000) {
-                    calls.put("start(" + a + ", " + b + ")", x -> x.start(a, b));
-                }
-                if (a < 0 || a >= n || b < 0 || b >= n) {
-                    calls.put("edge(" + a + ", " + b + ", 1)", x -> x.edge(a, b, 1));
-                    calls.put("edge(" + a + ", " + b + ", 0)", x -> x.edge(a, b, 0));
+        }
+        return calls;
+    }
+
+    private static Map<String, List<Call>> callsWithoutEffect(int n) {
+        Map<String, List<Call>> calls = new LinkedHashMap<>();
+        calls.put("A refused call changes nothing: edge", refusedEdges(n));
+        calls.put("A refused call changes nothing: start", refusedStarts(n));
+        calls.put("A refused call changes nothing: program", refusedPrograms());
+        calls.put("A refused call changes nothing: method", refusedMethods());
+        calls.put("No question changes anything: nodes", List.of(new Call("nodes()", SafeSync::nodes)));
+        calls.put("No question changes anything: edges", List.of(new Call("edges()", SafeSync::edges)));
+        calls.put("No question changes anything: parts", List.of(new Call("parts()", SafeSync::parts)));
+        calls.put("No question changes anything: settled", List.of(new Call("settled()", SafeSync::settled)));
+        for (String name : new String[] {"degree", "sum", "kinds", "changes", "overhead", "state", "reached"}) {
+            calls.put("No question changes anything: " + name, new ArrayList<>());
+        }
+        for (int a : WILD) {
+            addQuestion(calls, "degree", "(" + a + ")", x -> x.degree(a));
+            addQuestion(calls, "sum", "(" + a + ")", x -> x.sum(a));
+            addQuestion(calls, "kinds", "(" + a + ")", x -> x.kinds(a));
+            addQuestion(calls, "changes", "(" + a + ")", x -> x.changes(a));
+            addQuestion(calls, "overhead", "(" + a + ")", x -> x.overhead(a));
+            for (int b : WILD) {
+                addQuestion(calls, "state", "(" + a + ", " + b + ")", x -> x.state(a, b));
+                addQuestion(calls, "reached", "(" + a + ", " + b + ")", x -> x.reached(a, b));
+            }
+        }
+        return calls;
+    }
+
+    private static void addQuestion(Map<String, List<Call>> calls, String name, String arguments,
+            ToIntFunction<SafeSync> made) {
+        calls.get("No question changes anything: " + name).add(new Call(name + arguments, made));
+    }
+
+    /** Those with a node that is not good, and those with two equal nodes. */
+    private static List<Call> refusedEdges(int n) {
+        List<Call> calls = new ArrayList<>();
+        for (int u : WILD) {
+            for (int v : WILD) {
+                if (u < 0 || u >= n || v < 0 || v >= n || u == v) {
+                    calls.add(new Call("edge(" + u + ", " + v + ", 1)", x -> x.edge(u, v, 1)));
+                    calls.add(new Call("edge(" + u + ", " + v + ", 0)", x -> x.edge(u, v, 0)));
                 }
             }
         }
         return calls;
     }
 
-    /** All questions first; then the calls that answer what was set before, as they end the object's use. */
-    private static List<Integer> everyAnswer(SafeSync x) {
-        List<Integer> answers = new ArrayList<>(Arrays.asList(x.nodes(), x.edges(), x.parts(), x.settled()));
-        int n = x.nodes();
-        for (int round = 0; round <= 10; round++) {
-            answers.addAll(Arrays.asList(x.sum(round), x.kinds(round), x.changes(round), x.overhead(round)));
-            for (int v = 0; v < n; v++) {
-                answers.add(x.state(v, round));
+    /** Those with a node that is not good, and those with a value outside -1000 .. 1000. */
+    private static List<Call> refusedStarts(int n) {
+        List<Call> calls = new ArrayList<>();
+        for (int v : WILD) {
+            for (int value : WILD) {
+                if (v < 0 || v >= n || value < -1000 || value > 1000) {
+                    calls.add(new Call("start(" + v + ", " + value + ")", x -> x.start(v, value)));
+                }
             }
         }
-        for (int v = 0; v < n; v++) {
-            answers.addAll(Arrays.asList(x.degree(v), x.reached(v, 0), x.reached(v, x.state(v, 10))));
-        }
-        // Adding up shows the starts and edges in another light than the program that was set.
-        answers.add(x.program(2));
-        for (int v = 0; v < n; v++) {
-            answers.add(x.state(v, 3));
-        }
-        answers.add(x.method(0));
-        for (int u = 0; u < n; u++) {
-            answers.add(x.start(u, 0));
-            for (int v = u + 1; v < n; v++) {
-                answers.add(x.edge(u, v, 0));
+        return calls;
+    }
+
+    private static List<Call> refusedPrograms() {
+        List<Call> calls = new ArrayList<>();
+        for (int kind : WILD) {
+            if (kind < 0 || kind > 5) {
+                calls.add(new Call("program(" + kind + ")", x -> x.program(kind)));
             }
         }
-        return answers;
+        return calls;
+    }
+
+    private static List<Call> refusedMethods() {
+        List<Call> calls = new ArrayList<>();
+        for (int kind : WILD) {
+            if (kind < 0 || kind > 1) {
+                calls.add(new Call("method(" + kind + ")", x -> x.method(kind)));
+            }
+        }
+        return calls;
     }
 }
