@@ -46,14 +46,13 @@ public final class UnchangedTest {
         for (Setting setting : settings) {
             List<Call> questions = questions(setting.n);
             List<Call> ends = callsThatEndTheUse(setting.n);
-            SafeSync untouched = prepared(setting);
-            List<Integer> before = answers(untouched, questions);
-            List<Integer> endsDue = answers(untouched, ends);
+            List<Integer> due = answersOnNewObjects(setting, questions);
+            List<Integer> endsDue = answers(prepared(setting), ends);
             for (Call call : callsWithoutEffect(setting.n).get(method)) {
                 SafeSync x = prepared(setting);
-                compare(setting + ", before " + call.told, questions, answers(x, questions), before);
+                compare(setting + ", before " + call.told, questions, answers(x, questions), due);
                 call.made.applyAsInt(x);
-                compare(setting + ", after " + call.told, questions, answers(x, questions), before);
+                compare(setting + ", after " + call.told, questions, answers(x, questions), due);
                 compare(setting + ", after " + call.told, ends, answers(x, ends), endsDue);
                 if (Due.enoughToldOfSentence()) {
                     return;
@@ -67,9 +66,9 @@ public final class UnchangedTest {
             List<Call> questions = questions(setting.n);
             questions.removeIf(question -> question.told.startsWith("overhead"));
             SafeSync x = prepared(setting);
-            List<Integer> before = answers(x, questions);
             x.method(1 - setting.method);
-            compare(setting + ", with the other method", questions, answers(x, questions), before);
+            List<Integer> due = answersOnNewObjects(setting, questions);
+            compare(setting + ", with the other method", questions, answers(x, questions), due);
         }
     }
 
@@ -94,6 +93,15 @@ public final class UnchangedTest {
         x.program(setting.program);
         x.method(setting.method);
         return x;
+    }
+
+    /** Each question is asked of an object that was asked nothing before, so that none can spoil what is due. */
+    private static List<Integer> answersOnNewObjects(Setting setting, List<Call> questions) {
+        List<Integer> answers = new ArrayList<>();
+        for (Call question : questions) {
+            answers.add(question.made.applyAsInt(prepared(setting)));
+        }
+        return answers;
     }
 
     private static List<Integer> answers(SafeSync x, List<Call> calls) {
