@@ -1,15 +1,11 @@
 import java.util.ArrayList;
 import java.util.List;
-import java.util.function.ToIntFunction;
 
 // "a SCHEDULE, any int, on which no answer of any call depends": the same calls on an object that never got a
 // schedule, on one for each of several schedules, and on one that gets another schedule before every call.
 public final class ScheduleTest {
     private static final int[] SEEDS = {Integer.MIN_VALUE, Integer.MAX_VALUE, 0, 1, -1, 2, 3, 7, 8, -8, 31, 32, 255, 256,
         65535, 123456789, -987654321, Integer.MIN_VALUE + 1, Integer.MAX_VALUE - 1};
-
-    private record Call(String told, ToIntFunction<SafeSync> made) {
-    }
 
     public static void main(String[] args) {
         for (int seed : SEEDS) {
@@ -37,15 +33,15 @@ public final class ScheduleTest {
             if (beforeEveryCall) {
                 with.schedule(seeds[i % seeds.length]);
             }
-            Due.answer(() -> call.told, call.made.applyAsInt(with), call.made.applyAsInt(without));
+            Due.answer(call::told, call.made().applyAsInt(with), call.made().applyAsInt(without));
         }
     }
 
-    /** Every method, with right and wrong inputs: 178 calls, or 357 with a schedule before each and one at first. */
+    /** Every method, with right and wrong inputs: 189 calls, 369 with a schedule before each. */
     private static List<Call> calls(int program, int method) {
         List<Call> calls = new ArrayList<>();
         addSettings(calls, program, method);
-        addQuestions(calls);
+        calls.addAll(Call.everyQuestion(5));
         // Setting once more what is set answers what was before.
         addSettings(calls, program, method);
         return calls;
@@ -67,29 +63,5 @@ public final class ScheduleTest {
         calls.add(new Call("program(6)", x -> x.program(6)));
         calls.add(new Call("method(" + method + ")", x -> x.method(method)));
         calls.add(new Call("method(2)", x -> x.method(2)));
-    }
-
-    private static void addQuestions(List<Call> calls) {
-        calls.add(new Call("nodes()", SafeSync::nodes));
-        calls.add(new Call("edges()", SafeSync::edges));
-        calls.add(new Call("parts()", SafeSync::parts));
-        calls.add(new Call("settled()", SafeSync::settled));
-        for (int v = -1; v <= 5; v++) {
-            int node = v;
-            calls.add(new Call("degree(" + v + ")", x -> x.degree(node)));
-            calls.add(new Call("reached(" + v + ", 1000)", x -> x.reached(node, 1000)));
-            calls.add(new Call("reached(" + v + ", -40)", x -> x.reached(node, -40)));
-        }
-        for (int r = -1; r <= 11; r++) {
-            int round = r;
-            calls.add(new Call("sum(" + r + ")", x -> x.sum(round)));
-            calls.add(new Call("kinds(" + r + ")", x -> x.kinds(round)));
-            calls.add(new Call("changes(" + r + ")", x -> x.changes(round)));
-            calls.add(new Call("overhead(" + r + ")", x -> x.overhead(round)));
-            for (int v = 0; v < 5; v++) {
-                int node = v;
-                calls.add(new Call("state(" + v + ", " + r + ")", x -> x.state(node, round)));
-            }
-        }
     }
 }

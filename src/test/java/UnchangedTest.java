@@ -12,10 +12,6 @@ public final class UnchangedTest {
     private static final int MAX = Integer.MAX_VALUE;
     private static final int[] WILD = {MIN, -1001, -2, -1, 0, 1, 2, 5, 6, 7, 8, 9, 10, 11, 12, 31, 32, 33, 1001, MAX};
 
-    /** A call, told as it is written, and how it is made. */
-    private record Call(String told, ToIntFunction<SafeSync> made) {
-    }
-
     /** An object as it is set up: how many of the edges there are (none, some, all), the program and the method. */
     private record Setting(int n, int edges, int program, int method) {
     }
@@ -42,18 +38,19 @@ public final class UnchangedTest {
         return settings;
     }
 
+    /** With 8 nodes an object gets at most 38 calls to be set up, 210 twice, one to be tried and 46 at the end: 505. */
     private static void tryOn(List<Setting> settings, String method) {
         for (Setting setting : settings) {
-            List<Call> questions = questions(setting.n);
+            List<Call> questions = Call.everyQuestion(setting.n);
             List<Call> ends = callsThatEndTheUse(setting.n);
             List<Integer> due = answersOnNewObjects(setting, questions);
             List<Integer> endsDue = answers(prepared(setting), ends);
             for (Call call : callsWithoutEffect(setting.n).get(method)) {
                 SafeSync x = prepared(setting);
-                compare(setting + ", before " + call.told, questions, answers(x, questions), due);
-                call.made.applyAsInt(x);
-                compare(setting + ", after " + call.told, questions, answers(x, questions), due);
-                compare(setting + ", after " + call.told, ends, answers(x, ends), endsDue);
+                compare(setting + ", before " + call.told(), questions, answers(x, questions), due);
+                call.made().applyAsInt(x);
+                compare(setting + ", after " + call.told(), questions, answers(x, questions), due);
+                compare(setting + ", after " + call.told(), ends, answers(x, ends), endsDue);
                 if (Due.enoughToldOfSentence()) {
                     return;
                 }
@@ -63,8 +60,8 @@ public final class UnchangedTest {
 
     private static void tryOtherMethodOn(List<Setting> settings) {
         for (Setting setting : settings) {
-            List<Call> questions = questions(setting.n);
-            questions.removeIf(question -> question.told.startsWith("overhead"));
+            List<Call> questions = Call.everyQuestion(setting.n);
+            questions.removeIf(question -> question.told().startsWith("overhead"));
             SafeSync x = prepared(setting);
             x.method(1 - setting.method);
             List<Integer> due = answersOnNewObjects(setting, questions);
@@ -74,7 +71,7 @@ public final class UnchangedTest {
 
     private static void compare(String when, List<Call> asked, List<Integer> got, List<Integer> want) {
         for (int i = 0; i < asked.size(); i++) {
-            String told = asked.get(i).told;
+            String told = asked.get(i).told();
             Due.answer(() -> when + ": " + told, got.get(i), want.get(i));
         }
     }
@@ -99,7 +96,7 @@ public final class UnchangedTest {
     private static List<Integer> answersOnNewObjects(Setting setting, List<Call> questions) {
         List<Integer> answers = new ArrayList<>();
         for (Call question : questions) {
-            answers.add(question.made.applyAsInt(prepared(setting)));
+            answers.add(question.made().applyAsInt(prepared(setting)));
         }
         return answers;
     }
@@ -107,42 +104,9 @@ public final class UnchangedTest {
     private static List<Integer> answers(SafeSync x, List<Call> calls) {
         List<Integer> answers = new ArrayList<>();
         for (Call call : calls) {
-            answers.add(call.made.applyAsInt(x));
+            answers.add(call.made().applyAsInt(x));
         }
         return answers;
-    }
-
-    /**
-     * All that can be asked for, of every node and every round, and just outside them. With 8 nodes they are
-     * 210 calls, asked twice; with 38 to set up, one to be tried and 46 at the end an object gets 505 of its 512.
-     */
-    private static List<Call> questions(int n) {
-        List<Call> calls = new ArrayList<>();
-        calls.add(new Call("nodes()", SafeSync::nodes));
-        calls.add(new Call("edges()", SafeSync::edges));
-        calls.add(new Call("parts()", SafeSync::parts));
-        calls.add(new Call("settled()", SafeSync::settled));
-        calls.add(new Call("degree(-1)", x -> x.degree(-1)));
-        calls.add(new Call("degree(" + n + ")", x -> x.degree(n)));
-        for (int v = 0; v < n; v++) {
-            int node = v;
-            calls.add(new Call("degree(" + v + ")", x -> x.degree(node)));
-            calls.add(new Call("reached(" + v + ", 0)", x -> x.reached(node, 0)));
-            calls.add(new Call("reached(" + v + ", its state after 5)", x -> x.reached(node, x.state(node, 5))));
-            calls.add(new Call("reached(" + v + ", its state after 10)", x -> x.reached(node, x.state(node, 10))));
-        }
-        for (int r = -1; r <= 11; r++) {
-            int round = r;
-            calls.add(new Call("sum(" + r + ")", x -> x.sum(round)));
-            calls.add(new Call("kinds(" + r + ")", x -> x.kinds(round)));
-            calls.add(new Call("changes(" + r + ")", x -> x.changes(round)));
-            calls.add(new Call("overhead(" + r + ")", x -> x.overhead(round)));
-            for (int v = 0; v < n; v++) {
-                int node = v;
-                calls.add(new Call("state(" + v + ", " + r + ")", x -> x.state(node, round)));
-            }
-        }
-        return calls;
     }
 
     /** They answer what was set before and show it under another program; the object is not used after them. */
